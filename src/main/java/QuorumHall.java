@@ -447,7 +447,7 @@ public final class QuorumHall {
         }
     }
 
-    /** A message of any kind; a kind leaves what it does not need at 0. */
+    /** A message of any kind; what a kind does not need stays as start() puts it. */
     private static final class Message {
         int kind, from, to;
         /** The term, or the ballot. */

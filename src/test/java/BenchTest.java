@@ -66,6 +66,13 @@ public final class BenchTest {
         Hall.beatAll(x, 0);
         Check.due("the span is 10 again and the bound 0", x.lease(0), 11f);
         Check.due("no act is left", x.request(0, 0, 1, 8), 1);
+        x.pass(1000);
+        Hall.beatAll(x, 0);
+        x.begin(3);
+        x.stand(0);
+        Hall.deliverAll(x);
+        Hall.beatAll(x, 0);
+        Check.due("no clock of an answer is left", x.lease(0), 10f);
     }
 
     private static void toggle() {

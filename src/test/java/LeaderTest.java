@@ -8,11 +8,13 @@ public final class LeaderTest {
         greaterTerms();
         beat();
         appendCutsBack();
+        olderAppendBehindNewer();
         appendOfLowerTerm();
         stepBack();
         staleNo();
         commitOfOwnTermOnly();
         commitOfFollowers();
+        knownAnewInEachTerm();
         questions();
         Check.end("LeaderTest");
     }
@@ -81,6 +83,19 @@ public final class LeaderTest {
         Hall.deliverAll(y);
         Check.due("one of its own does", y.of(0, 0), QuorumHall.LEADER);
         Check.due("a leader sends nothing by that", y.messages(), 0);
+
+        QuorumHall z = Hall.with(5);
+        z.stand(0);
+        z.deliver(0);
+        Hall.deliverTo(z, QuorumHall.VOTE, 0);
+        Hall.loseAll(z);
+        z.stand(0);
+        z.deliver(1);
+        Hall.deliverTo(z, QuorumHall.VOTE, 0);
+        Check.due("votes of the term before are not counted", z.of(0, 0), QuorumHall.CANDIDATE);
+        z.deliver(1);
+        Hall.deliverTo(z, QuorumHall.VOTE, 0);
+        Check.due("two of the same term are", z.of(0, 0), QuorumHall.LEADER);
     }
 
     private static void votesByLogs() {
@@ -213,6 +228,24 @@ public final class LeaderTest {
         y.beat(0);
         Hall.deliverTo(y, QuorumHall.APPEND, 1);
         Check.due("nothing is cut by what is there", Hall.log(y, 1), "1:1 1:2 1:3 1:4");
+    }
+
+    private static void olderAppendBehindNewer() {
+        QuorumHall x = Hall.led(3);
+        x.request(0, 0, 1, 1);
+        x.beat(0);
+        x.request(0, 0, 2, 2);
+        x.beat(0);
+        x.deliver(2);
+        x.deliver(x.messages() - 1);
+        Check.due("agreed by the newer one", x.of(0, 4), 2);
+        x.beat(0);
+        x.deliver(x.messages() - 2);
+        Check.due("1 has both, and the commit", Hall.of(x, 1), "0 1 0 2 2 2 0 1");
+        x.deliver(0);
+        Check.due("the older one cuts nothing, and takes no commit back", Hall.of(x, 1), "0 1 0 2 2 2 0 1");
+        Check.due("its answer tells the last entry that came", x.deliver(x.messages() - 1), 0);
+        Check.due("nothing more for 1", x.beat(0) - x.message(x.messages() - 1, 4), 0);
     }
 
     private static void appendOfLowerTerm() {
@@ -377,6 +410,49 @@ public final class LeaderTest {
         Check.due("not more than came", x.of(4, 4), 3);
         x.toggle(1);
         Check.due("the commit is gone by a crash", Hall.of(x, 1), "0 1 0 4 0 0 0 0");
+
+        QuorumHall y = Hall.led(3);
+        for (int i = 1; i <= 5; i++) y.request(0, 0, i, i);
+        y.cut(0, 2);
+        for (int i = 0; i < 2; i++) {
+            y.beat(0);
+            y.deliver(i);
+            y.deliver(y.messages() - 1);
+        }
+        Check.due("agreed with 1", y.of(0, 4), 5);
+        Hall.loseAll(y);
+        y.cut(0, 2);
+        y.beat(0);
+        y.deliver(1);
+        Check.due("2 knows of no more than came", Hall.of(y, 2), "0 1 0 3 3 3 0 1");
+    }
+
+    private static void knownAnewInEachTerm() {
+        QuorumHall x = Hall.led(5);
+        for (int i = 1; i <= 3; i++) x.request(0, 0, i, i);
+        x.beat(0);
+        x.deliver(0);
+        x.deliver(x.messages() - 1);
+        Hall.loseAll(x);
+        x.stand(2);
+        x.lose(0);
+        x.lose(0);
+        Hall.deliverAll(x);
+        x.request(2, 1, 1, 9);
+        Hall.beatAll(x, 2);
+        Check.due("0 had let 1 know 3 entries, which are cut", Hall.log(x, 0) + "," + Hall.log(x, 1), "2:9,2:9");
+        x.pass(100);
+        x.stand(0);
+        Hall.deliverAll(x);
+        x.request(0, 2, 1, 7);
+        x.request(0, 2, 2, 8);
+        x.beat(0);
+        x.deliver(2);
+        x.deliver(x.messages() - 1);
+        Check.due("two of five know the new ones", Hall.of(x, 0), "2 3 0 3 0 0 -1 1");
+        x.deliver(0);
+        x.deliver(x.messages() - 1);
+        Check.due("three do", Hall.of(x, 0), "2 3 0 3 3 8 -1 1");
     }
 
     private static void questions() {

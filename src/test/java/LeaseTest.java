@@ -119,6 +119,21 @@ public final class LeaseTest {
         y.deliver(0);
         y.deliver(1);
         Check.due("until a yes of its term", y.lease(0), 20f);
+
+        QuorumHall z = Hall.led(5);
+        Hall.beatAll(z, 0);
+        z.toggle(0);
+        z.toggle(0);
+        z.pass(100);
+        z.stand(0);
+        Hall.deliverAll(z);
+        z.beat(0);
+        z.deliver(0);
+        z.deliver(z.messages() - 1);
+        Check.due("answers of the term before don't count", z.lease(0), -1f);
+        z.deliver(0);
+        z.deliver(z.messages() - 1);
+        Check.due("two of this one do", z.lease(0), 20f);
     }
 
     private static void promise() {

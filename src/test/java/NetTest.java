@@ -72,6 +72,70 @@ public final class NetTest {
         Check.due("a doubled ballot", Hall.message(y, 2), "4 0 1 0 0");
         y.deliver(2);
         Check.due("is for its decision", y.decision(1, 3, 0), 0);
+        doubledAlone();
+    }
+
+    /** Doubles the first message, loses it, and delivers the like one. */
+    private static int deliverLike(QuorumHall x) {
+        x.twice(0);
+        x.lose(0);
+        return x.deliver(x.messages() - 1);
+    }
+
+    private static void doubledAlone() {
+        QuorumHall x = Hall.with(3);
+        x.stand(0);
+        x.deliver(0);
+        x.lose(0);
+        deliverLike(x);
+        Check.due("a like VOTE says yes", x.of(0, 0), QuorumHall.LEADER);
+        x.pass(20);
+        x.request(0, 0, 1, 4);
+        x.beat(0);
+        x.lose(1);
+        deliverLike(x);
+        Check.due("a like APPEND", Hall.log(x, 1), "1:4");
+        deliverLike(x);
+        Check.due("a like ACK has the clock of the APPEND, which had that of the leader", x.lease(0), 12f);
+        Check.due("and the number", x.of(0, 4), 1);
+        x.beat(0);
+        x.lose(1);
+        deliverLike(x);
+        Check.due("a like APPEND has the commit", x.of(1, 4), 1);
+        Hall.loseAll(x);
+        x.toggle(1);
+        x.toggle(1);
+        x.pass(100);
+        x.stand(2);
+        x.lose(0);
+        deliverLike(x);
+        deliverLike(x);
+        Check.due("a like ASK has the number of entries, a like VOTE the no", x.of(2, 0), QuorumHall.CANDIDATE);
+        x.stand(1);
+        x.lose(0);
+        deliverLike(x);
+        deliverLike(x);
+        Check.due("a longer log", x.of(1, 0), QuorumHall.LEADER);
+
+        QuorumHall y = Hall.with(3);
+        y.propose(1, 0, 8);
+        y.lose(0);
+        deliverLike(y);
+        deliverLike(y);
+        y.lose(0);
+        deliverLike(y);
+        Check.due("a like ACCEPT has the value", Hall.decision(y, 2, 0), "1 1 8 -1");
+        y.propose(0, 0, 7);
+        Hall.loseAll(y);
+        y.propose(0, 0, 9);
+        y.lose(0);
+        deliverLike(y);
+        deliverLike(y);
+        Check.due("a like PROMISED has what was accepted", Hall.decision(y, 0, 0), "8 8 8 -1");
+        y.lose(0);
+        deliverLike(y);
+        deliverLike(y);
+        Check.due("a like ACCEPTED", Hall.decision(y, 0, 0), "8 8 8 8");
     }
 
     private static void fullRow() {
