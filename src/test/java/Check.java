@@ -1,3 +1,7 @@
+import java.lang.reflect.InvocationTargetException;
+import java.lang.reflect.Method;
+import java.util.Arrays;
+import java.util.Comparator;
 import java.util.function.Supplier;
 
 /** Counts what is wrong in one test class, and tells it. */
@@ -43,6 +47,24 @@ final class Check {
         } catch (RuntimeException e) {
             return e.getClass().getSimpleName();
         }
+    }
+
+    /** Runs the tests of a class: its methods without arguments and without an answer. */
+    static void runAll(Class<?> tests) throws IllegalAccessException {
+        Method[] methods = tests.getDeclaredMethods();
+        Arrays.sort(methods, Comparator.comparing(Method::getName));
+        for (Method m : methods) {
+            if (m.isSynthetic() || m.getParameterCount() > 0 || m.getReturnType() != void.class) continue;
+            m.setAccessible(true);
+            int before = wrong;
+            try {
+                m.invoke(null);
+            } catch (InvocationTargetException e) {
+                due(m.getName(), e.getCause(), "no exception");
+            }
+            if (wrong > before) System.out.println("  in " + tests.getName() + "." + m.getName());
+        }
+        end(tests.getName());
     }
 
     static void end(String name) {

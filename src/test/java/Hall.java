@@ -1,5 +1,7 @@
 /** A bench in states that tests begin with, and what they read of it. */
 final class Hall {
+    private static final int MANY = 1000;
+
     private Hall() { }
 
     static QuorumHall with(int machines) {
@@ -13,9 +15,14 @@ final class Hall {
         for (int i = 0; i < times; i++) x.deliver(0);
     }
 
-    /** Delivers the first message until there is none. */
+    /** Delivers the last message in the row, which is the answer if one has just been sent. */
+    static int deliverLast(QuorumHall x) {
+        return x.deliver(x.messages() - 1);
+    }
+
+    /** Delivers the first message until there is none; a bench that never comes to an end is given up. */
     static void deliverAll(QuorumHall x) {
-        while (x.messages() > 0) x.deliver(0);
+        for (int i = 0; x.messages() > 0 && i < MANY; i++) x.deliver(0);
     }
 
     /** Delivers all but what goes to that machine, which may be down. */
@@ -28,11 +35,43 @@ final class Hall {
     }
 
     static void loseAll(QuorumHall x) {
-        while (x.messages() > 0) x.lose(0);
+        for (int i = 0; x.messages() > 0 && i < MANY; i++) x.lose(0);
     }
 
     static void loseAllButLast(QuorumHall x) {
-        while (x.messages() > 1) x.lose(0);
+        for (int i = 0; x.messages() > 1 && i < MANY; i++) x.lose(0);
+    }
+
+    /** Loses all that goes to that machine. */
+    static void loseTo(QuorumHall x, int machine) {
+        for (int i = x.messages() - 1; i >= 0; i--) {
+            if (x.message(i, 2) == machine) x.lose(i);
+        }
+    }
+
+    /** Doubles the last message until there are so many. */
+    static void fill(QuorumHall x, int messages) {
+        for (int i = 0; x.messages() < messages && i < MANY; i++) x.twice(x.messages() - 1);
+    }
+
+    /** Down, and up again at once. */
+    static void crash(QuorumHall x, int machine) {
+        x.toggle(machine);
+        x.toggle(machine);
+    }
+
+    /** Cuts a machine from all others, or no more. */
+    static void cutOff(QuorumHall x, int machine, int machines) {
+        for (int i = 0; i < machines; i++) {
+            if (i != machine) x.cut(machine, i);
+        }
+    }
+
+    /** The machine stands, and all that can be delivered is, what goes to or from the cut one being lost. */
+    static void lead(QuorumHall x, int machine, int cutOne) {
+        x.stand(machine);
+        if (cutOne >= 0) loseTo(x, cutOne);
+        deliverAll(x);
     }
 
     /** Machine 0 leads in term 1, and no message is left: 1 + 4 steps with 3 machines, 1 + 8 with 5. */
@@ -41,6 +80,29 @@ final class Hall {
         x.stand(0);
         deliverAll(x);
         return x;
+    }
+
+    /** Of three, machine 0 holds a lease with an agreed value, is cut off and slow; 1 leads, and 2 follows it. */
+    static QuorumHall twoLeases(int value) {
+        QuorumHall x = led(3);
+        x.rate(0, 500);
+        x.rate(1, 1500);
+        x.rate(2, 1500);
+        x.request(0, 0, 1, value);
+        beatAll(x, 0);
+        cutOff(x, 0, 3);
+        x.pass(80);
+        lead(x, 1, 0);
+        return x;
+    }
+
+    /** Machine 1 agrees with 2 on all in its log, at most three entries. */
+    static void agreeBesides0(QuorumHall x) {
+        for (int i = 0; i < 2; i++) {
+            x.beat(1);
+            loseTo(x, 0);
+            deliverAll(x);
+        }
     }
 
     static void beatAll(QuorumHall x, int leader) {

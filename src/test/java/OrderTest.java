@@ -24,38 +24,12 @@ public final class OrderTest {
         Check.due("asking is no step", x.steps(), steps);
     }
 
-    /** Machine 0 holds a lease with an agreed value, is cut off and slow; 1 leads, and 2 follows it. */
-    private static QuorumHall twoLeases(int value) {
-        QuorumHall x = Hall.led(3);
-        x.rate(0, 500);
-        x.rate(1, 1500);
-        x.rate(2, 1500);
-        x.request(0, 0, 1, value);
-        Hall.beatAll(x, 0);
-        x.cut(0, 1);
-        x.cut(0, 2);
-        x.pass(80);
-        x.stand(1);
-        x.lose(0);
-        Hall.deliverAll(x);
-        return x;
-    }
-
-    /** Machine 1 agrees with 2 on all in its log. */
-    private static void agree(QuorumHall x) {
-        for (int i = 0; i < 2; i++) {
-            x.beat(1);
-            x.lose(0);
-            Hall.deliverAll(x);
-        }
-    }
-
     private static void staleRead() {
-        QuorumHall x = twoLeases(11);
+        QuorumHall x = Hall.twoLeases(11);
         x.request(1, 1, 1, 22);
         Check.due("the old value, while the new write is not answered", x.read(0), 11);
         Check.due("in order", x.isInOrder(), true);
-        agree(x);
+        Hall.agreeBesides0(x);
         Check.due("in order", x.isInOrder(), true);
         Check.due("the old value behind the new one", x.read(0), 11);
         Check.due("is not in order", x.isInOrder(), false);
@@ -67,37 +41,37 @@ public final class OrderTest {
     }
 
     private static void staleReadOfTheSameValue() {
-        QuorumHall x = twoLeases(11);
+        QuorumHall x = Hall.twoLeases(11);
         x.request(1, 1, 1, 22);
         x.request(1, 1, 2, 11);
-        agree(x);
+        Hall.agreeBesides0(x);
         Check.due("both have the value", x.read(0) + x.read(1), 22);
         Check.due("so it is in order, though one is stale", x.isInOrder(), true);
 
-        QuorumHall y = twoLeases(0);
+        QuorumHall y = Hall.twoLeases(0);
         y.request(1, 1, 1, 22);
-        agree(y);
+        Hall.agreeBesides0(y);
         y.read(0);
         Check.due("0 was there at first, but not behind the 22", y.isInOrder(), false);
     }
 
     private static void overlapping() {
-        QuorumHall x = twoLeases(11);
+        QuorumHall x = Hall.twoLeases(11);
         x.request(1, 1, 1, 22);
         x.request(1, 2, 1, 11);
         x.request(1, 3, 1, 33);
-        agree(x);
+        Hall.agreeBesides0(x);
         Check.due("three answered at once", x.act(1, 3) == x.act(3, 3), true);
         Check.due("the last in the log", x.read(1), 33);
         Check.due("in order", x.isInOrder(), true);
         Check.due("a stale one", x.read(0), 11);
         Check.due("is not, as 33 was read and no write can come between", x.isInOrder(), false);
 
-        QuorumHall y = twoLeases(11);
+        QuorumHall y = Hall.twoLeases(11);
         y.request(1, 1, 1, 22);
         y.request(1, 2, 1, 11);
         y.request(1, 3, 1, 33);
-        agree(y);
+        Hall.agreeBesides0(y);
         y.read(0);
         Check.due("a stale one alone: the other 11 may have been the last", y.isInOrder(), true);
         y.read(1);
@@ -105,11 +79,11 @@ public final class OrderTest {
     }
 
     private static void unansweredWrites() {
-        QuorumHall x = twoLeases(11);
+        QuorumHall x = Hall.twoLeases(11);
         x.request(0, 2, 1, 11);
         Check.due("a write to the one that is cut off", x.act(1, 3), -1);
         x.request(1, 1, 1, 22);
-        agree(x);
+        Hall.agreeBesides0(x);
         Check.due("read 22", x.read(1), 22);
         Check.due("then 11", x.read(0), 11);
         Check.due("the write without an answer may come between", x.isInOrder(), true);
@@ -125,12 +99,12 @@ public final class OrderTest {
     }
 
     private static void agreed() {
-        QuorumHall x = twoLeases(11);
+        QuorumHall x = Hall.twoLeases(11);
         x.request(0, 2, 1, 5);
         x.request(1, 1, 1, 6);
         Check.due("unlike entries, not agreed on", Hall.log(x, 0) + "," + Hall.log(x, 1), "1:11 1:5,1:11 2:6");
         Check.due("are no harm", x.isAgreed(), true);
-        agree(x);
+        Hall.agreeBesides0(x);
         Check.due("nor when one is agreed on elsewhere", x.isAgreed(), true);
         x.propose(1, 0, 3);
         x.lose(0);
