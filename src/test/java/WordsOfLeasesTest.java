@@ -135,6 +135,17 @@ public final class WordsOfLeasesTest {
         Check.due("standing", x.stand(1), 2);
     }
 
+    /** Leases: "A machine that promises does so until its clock shows what it shows then and the span, added," */
+    static void aPromiseGoesOnWhileTheMachineIsDown() {
+        QuorumHall x = Hall.led(3);
+        yesOf(x, 1);
+        x.toggle(1);
+        Check.due("down, at 9.9 of 10", afterPassing(x, 99), 0);
+        Check.due("at 10", afterPassing(x, 1), -1);
+        x.toggle(1);
+        Check.due("up, to nobody", x.of(1, 6), 1);
+    }
+
     /** Leases: "in place of what it promised before:" */
     static void aLaterPromiseTakesThePlaceOfALongerOne() {
         QuorumHall x = Hall.led(3);
