@@ -1172,6 +1172,8 @@ public final class QuorumHall {
         /**
          * Whether the reads from number next on can be fed, when the value ahead is told, the writes of
          * the bits feeding have fed a read, and those of placed have or could come ahead of one that did.
+         * Where the value ahead suits the read, a write of the same value is tried too: others that are
+         * due later may have no place but ahead of it.
          */
         private static boolean canFeed(History history, int next, int value, int feeding, int placed) {
             if (next >= history.readCount) {

@@ -525,24 +525,30 @@ final class Model {
         return isInOrder(told);
     }
 
-    /** Tries all orders, by the set of acts that came and the value that they left; an act is told as act() does. */
+    /** Tries all orders, by the set of acts that came and the write that came last; an act is told as act() does. */
     static boolean isInOrder(int[][] acts) {
         int needed = 0;
         for (int i = 0; i < acts.length; i++) if (acts[i][3] != -1) needed |= 1 << i;
-        List<Set<Integer>> left = new ArrayList<>();
-        for (int i = 0; i < 1 << acts.length; i++) left.add(new HashSet<>());
-        left.get(0).add(0);
+        int[] last = new int[1 << acts.length];
+        last[0] = 1 << acts.length;
         for (int came = 0; came < 1 << acts.length; came++) {
-            if (left.get(came).isEmpty()) continue;
+            if (last[came] == 0) continue;
             if ((came & needed) == needed) return true;
             for (int i = 0; i < acts.length; i++) {
                 if ((came >> i & 1) == 1 || !canCome(acts, came, i)) continue;
-                Set<Integer> then = left.get(came | 1 << i);
-                if (acts[i][0] == 1) then.add(acts[i][1]);
-                else if (left.get(came).contains(acts[i][1])) then.add(acts[i][1]);
+                last[came | 1 << i] |= acts[i][0] == 1 ? 1 << i : withValue(acts, last[came], acts[i][1]);
             }
         }
         return false;
+    }
+
+    /** Those of some writes that have a value; the bit behind all acts is for none, which leaves 0. */
+    private static int withValue(int[][] acts, int writes, int value) {
+        int some = 0;
+        for (int i = 0; i <= acts.length; i++) {
+            if ((writes >> i & 1) == 1 && (i == acts.length ? 0 : acts[i][1]) == value) some |= 1 << i;
+        }
+        return some;
     }
 
     private static boolean canCome(int[][] acts, int came, int next) {

@@ -320,6 +320,19 @@ public final class WordsOfDecisionsTest {
         }
     }
 
+    /** Decisions: "its value becomes that which was accepted with the greatest ballot among the answers, if there is one;" */
+    static void theGreatestBallotMayHaveTheLeastValue() {
+        for (int first = 1; first <= 3; first += 2) {
+            QuorumHall x = Hall.with(5);
+            acceptAlone(x, 1, 2, 999);
+            acceptAlone(x, 3, 4, 0);
+            x.propose(0, 0, 500);
+            exchange(x, QuorumHall.PREPARE, first);
+            exchange(x, QuorumHall.PREPARE, 4 - first);
+            Check.due("that of ballot 3, whichever came first", Hall.decision(x, 0, 0), "8 8 0 -1");
+        }
+    }
+
     /** The machine accepts its own value alone: the helper and 0 promised its first ballot. */
     private static void acceptAlone(QuorumHall x, int machine, int helper, int value) {
         x.propose(machine, 0, value);

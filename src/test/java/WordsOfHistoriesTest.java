@@ -373,6 +373,57 @@ public final class WordsOfHistoriesTest {
         Check.due("the 11 of old, which another 11 suits", x.read(0) + " " + x.isInOrder(), "11 true");
     }
 
+    /** Histories: "such that each read has the value of the last write ahead of it, or 0," */
+    static void aSecondWriteOfTheValueMayBeTheLastThoughTheFirstSuitsTheReadToo() {
+        QuorumHall x = twiceEleven();
+        x.request(0, 2, 1, 22);
+        answerSecondEleven(x);
+        Check.due("11, 22, 11: the 22 began ahead of the answer of the second 11", x.read(0) + " " + x.isInOrder(), "11 true");
+        agreeOn22Besides0(x);
+        Check.due("the 22 is answered", x.act(3, 0) + " " + x.act(3, 1) + " " + (x.act(3, 3) == x.steps()), "1 22 true");
+        Check.due("11 again: 11, 22, 11 is still an order", x.read(0) + " " + x.isInOrder(), "11 true");
+
+        QuorumHall y = twiceEleven();
+        answerSecondEleven(y);
+        Check.due("11", y.read(0), 11);
+        y.request(0, 2, 1, 22);
+        agreeOn22Besides0(y);
+        Check.due("but no 11 can come behind a 22 that began later", y.read(0) + " " + y.isInOrder(), "11 false");
+    }
+
+    /** Of two writes of 11 the first is answered, and read; machine 1 has the second one, but its answer is in the net. */
+    private static QuorumHall twiceEleven() {
+        QuorumHall x = Hall.led(3);
+        x.rate(0, 500);
+        x.rate(1, 1500);
+        x.rate(2, 1500);
+        x.request(0, 0, 1, 11);
+        x.beat(0);
+        Hall.deliverTo(x, QuorumHall.APPEND, 1);
+        Hall.deliverTo(x, QuorumHall.APPEND, 2);
+        x.request(0, 1, 1, 11);
+        Hall.deliverAll(x);
+        x.read(0);
+        x.beat(0);
+        Hall.deliverTo(x, QuorumHall.APPEND, 1);
+        x.lose(0);
+        Check.due("one of two answered, and a read", x.acts() + " " + (x.act(0, 3) < x.act(2, 2)) + " " + x.act(1, 3), "3 true -1");
+        return x;
+    }
+
+    private static void answerSecondEleven(QuorumHall x) {
+        x.deliver(0);
+        Check.due("the second one is answered", x.act(1, 3), x.steps());
+    }
+
+    /** 1 leads, and agrees on the 22 with 2, while 0, which is slow, keeps its lease. */
+    private static void agreeOn22Besides0(QuorumHall x) {
+        x.pass(80);
+        Hall.lead(x, 1, 0);
+        x.request(1, 2, 1, 22);
+        Hall.agreeBesides0(x);
+    }
+
     /** Histories: "and an act that was answered ahead of the beginning of another one comes ahead of it." */
     static void aWriteAnsweredInTheStepAheadOfARead() {
         QuorumHall x = Hall.twoLeases(11);

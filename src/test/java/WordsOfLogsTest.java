@@ -418,13 +418,18 @@ public final class WordsOfLogsTest {
         Check.due("0 did not get it", x.of(0, 0), QuorumHall.CANDIDATE);
     }
 
+    /** Machine 0 has the log 1:1 1:2 1:3. */
+    private static QuorumHall twoTerms(int ofSecond) {
+        return twoTerms(3, ofSecond);
+    }
+
     /**
-     * Machine 0 has the log 1:1 1:2 1:3 and term 1, machines 1 and 2 have 2:9 (so many times) and term 2, 1 leads;
+     * Machine 0 has the log 1:1 1:2 and so on and term 1, machines 1 and 2 have 2:9 (so many times) and term 2, 1 leads;
      * 0 is cut off, no promise counts, and no message is left.
      */
-    private static QuorumHall twoTerms(int ofSecond) {
+    private static QuorumHall twoTerms(int ofFirst, int ofSecond) {
         QuorumHall x = Hall.led(3);
-        for (int i = 1; i <= 3; i++) x.request(0, 0, i, i);
+        for (int i = 1; i <= ofFirst; i++) x.request(0, 0, i, i);
         Hall.cutOff(x, 0, 3);
         Hall.lead(x, 1, 0);
         for (int i = 1; i <= ofSecond; i++) x.request(1, 1, i, 9);
@@ -1199,6 +1204,55 @@ public final class WordsOfLogsTest {
         x.deliver(0);
         Hall.deliverLast(x);
         Check.due("six are known and agreed", x.of(0, 4), 6);
+    }
+
+    /** 1 leads in term 3 with five entries, of which 0 has none, but four others; its first no, which tells 4, is doubled. */
+    private static QuorumHall doubledNo() {
+        QuorumHall x = twoTerms(4, 5);
+        leadAnewBesides0(x);
+        askOf0(x);
+        x.twice(0);
+        x.deliver(0);
+        Check.due("a like no is left", x.messages() + ": " + Hall.message(x, 0), "1: 3 0 1 3 0");
+        return x;
+    }
+
+    /** 1 beats, and 0 answers by the last message. */
+    private static void askOf0(QuorumHall x) {
+        x.beat(1);
+        Hall.loseTo(x, 2);
+        Hall.deliverLast(x);
+    }
+
+    /** How many entries the next APPEND to 0 has: up to three behind the one up to which 1 supposes its log to be as its own. */
+    private static int sentTo0(QuorumHall x) {
+        x.beat(1);
+        return x.message(x.messages() - 2, 4);
+    }
+
+    /** Leaders, logs: "by no, it supposes the log of the other one to be as its own up to the number told," */
+    static void byNoItSupposesMoreIfThatIsTold() {
+        QuorumHall x = doubledNo();
+        askOf0(x);
+        Hall.deliverLast(x);
+        Check.due("a no with 3: two of five are behind that", sentTo0(x), 2);
+        x.deliver(0);
+        Check.due("the no of old with 4: one", sentTo0(x), 1);
+    }
+
+    /** Leaders, logs: "by yes, if the number is more than it knew to be the same, it knows and supposes that;" */
+    static void byYesItSupposesLessIfItKnewLessStill() {
+        QuorumHall x = doubledNo();
+        for (int i = 0; i < 4; i++) {
+            askOf0(x);
+            Hall.deliverLast(x);
+        }
+        askOf0(x);
+        Check.due("0 has three of five, and has said so", Hall.log(x, 0) + ", " + x.messages(), "2:9 2:9 2:9, 2");
+        x.deliver(0);
+        Check.due("the no of old with 4: one behind that", sentTo0(x), 1);
+        Check.due("a yes with 3, which is more than the 0 known", x.deliver(0), 0);
+        Check.due("two behind that", sentTo0(x), 2);
     }
 
     /** Leaders, logs: "by yes, if the number is more than it knew to be the same, it knows and supposes that;" */

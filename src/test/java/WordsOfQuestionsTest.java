@@ -436,6 +436,26 @@ public final class WordsOfQuestionsTest {
         Check.due("agreed", x.isAgreed(), true);
     }
 
+    /** Promise 28: "Tells whether no two machines know unlike decisions," */
+    static void whatIsAcceptedAloneMayBeUnlike() {
+        QuorumHall x = Hall.with(3);
+        for (int m = 0; m < 2; m++) {
+            x.propose(m, 0, 10 + m);
+            Hall.deliverTo(x, QuorumHall.PREPARE, 2);
+            Hall.deliverTo(x, QuorumHall.PROMISED, m);
+            Hall.loseAll(x);
+        }
+        Check.due("accepted by one each", Hall.decision(x, 0, 0) + "," + Hall.decision(x, 1, 0), "0 0 10 -1,1 1 11 -1");
+        Check.due("but no decision is known", x.isAgreed(), true);
+        x.propose(1, 0, 12);
+        Hall.deliverTo(x, QuorumHall.PREPARE, 2);
+        Hall.deliverTo(x, QuorumHall.PROMISED, 1);
+        Hall.deliverTo(x, QuorumHall.ACCEPT, 2);
+        Hall.deliverTo(x, QuorumHall.ACCEPTED, 1);
+        Check.due("one knows a decision, and one accepted another value", x.decision(1, 0, 3) + " " + x.decision(0, 0, 2), "11 10");
+        Check.due("that is agreed too", x.isAgreed(), true);
+    }
+
     /** Promise 28: "and no two logs have entries with one number up to both commits that are unlike in anything." */
     static void entriesBehindACommitMayBeUnlike() {
         QuorumHall x = Hall.led(3);
