@@ -1,25 +1,33 @@
+import java.io.IOException;
 import java.lang.reflect.Constructor;
 import java.lang.reflect.Field;
 import java.lang.reflect.Member;
 import java.lang.reflect.Method;
 import java.lang.reflect.Modifier;
+import java.nio.file.Files;
+import java.nio.file.Path;
+import java.util.ArrayList;
 import java.util.HashSet;
+import java.util.List;
 import java.util.Set;
 import java.util.TreeSet;
+import java.util.regex.Matcher;
+import java.util.regex.Pattern;
+import java.util.stream.Collectors;
+import java.util.stream.Stream;
 
-/** The face of the document: its constants, its constructor and its methods, and nothing else to be seen. */
+/**
+ * The face of the document: its constants, its constructor and its methods with what they throw, and nothing else
+ * to be seen. To be run from the project's folder.
+ */
 public final class FaceTest {
-    private static final String[] METHODS = {
-        "int begin(int)", "boolean toggle(int)", "boolean cut(int, int)", "float rate(int, int)", "void spans(int, int)",
-        "float pass(int)", "int deliver(int)", "int lose(int)", "int twice(int)", "int stand(int)", "int beat(int)",
-        "int request(int, int, int, int)", "int read(int)", "int propose(int, int, int)", "int steps()", "int messages()",
-        "int message(int, int)", "int of(int, int)", "int entry(int, int, int)", "float clock(int)", "float lease(int)",
-        "int leases()", "int decision(int, int, int)", "int acts()", "int act(int, int)", "boolean isInOrder()",
-        "boolean isAgreed()"};
+    private static final Path DOC = Path.of("../shared/DOC.md");
+    private static final Pattern METHOD = Pattern.compile("    public (\\w+) (\\w+)\\(([^)]*)\\)(?: throws ([\\w, ]+))?;");
 
-    public static void main(String[] args) {
+    public static void main(String[] args) throws IOException {
         constants();
         methods();
+        names();
         hidden();
         Check.end("FaceTest");
     }
@@ -35,28 +43,44 @@ public final class FaceTest {
         Check.due("constants that are seen", seen, due.length);
     }
 
-    private static void methods() {
-        Set<String> due = new TreeSet<>(Set.of(METHODS));
+    private static void methods() throws IOException {
+        Set<String> due = new TreeSet<>();
+        for (String line : Files.readAllLines(DOC)) {
+            Matcher m = METHOD.matcher(line);
+            if (m.matches()) due.add(told(m.group(1), m.group(2), m.group(3).replaceAll(" \\w+(?=,|$)", ""), m.group(4)));
+        }
+        Check.due("methods in the document", due.size(), 27);
         Set<String> got = new TreeSet<>();
-        Set<String> publicNames = new HashSet<>();
         for (Method m : QuorumHall.class.getDeclaredMethods()) {
             if (Modifier.isPrivate(m.getModifiers()) || m.isSynthetic()) continue;
-            publicNames.add(m.getName());
-            StringBuilder told = new StringBuilder(m.getReturnType() + " " + m.getName() + "(");
-            for (Class<?> p : m.getParameterTypes()) told.append(told.charAt(told.length() - 1) == '(' ? "" : ", ").append(p);
-            got.add(told + ")");
+            String thrown = m.getExceptionTypes().length == 0 ? null : list(m.getExceptionTypes());
+            got.add(told(m.getReturnType().getSimpleName(), m.getName(), list(m.getParameterTypes()), thrown));
             Check.due(m.getName() + " is public and of an object", m.getModifiers(), Modifier.PUBLIC);
         }
         Check.due("methods", got, due);
-        for (Class<?> c : QuorumHall.class.getDeclaredClasses()) {
+    }
+
+    private static String told(String answer, String name, String arguments, String thrown) {
+        return answer + " " + name + "(" + arguments + ")" + (thrown == null ? "" : " throws " + thrown);
+    }
+
+    private static String list(Class<?>[] types) {
+        return Stream.of(types).map(Class::getSimpleName).collect(Collectors.joining(", "));
+    }
+
+    /** No private method bears the name of a public one. */
+    private static void names() {
+        Set<String> publicNames = new HashSet<>();
+        for (Method m : QuorumHall.class.getDeclaredMethods()) {
+            if (Modifier.isPublic(m.getModifiers())) publicNames.add(m.getName());
+        }
+        List<Class<?>> classes = new ArrayList<>(List.of(QuorumHall.class.getDeclaredClasses()));
+        classes.add(QuorumHall.class);
+        for (Class<?> c : classes) {
             for (Method m : c.getDeclaredMethods()) {
                 boolean twice = Modifier.isPrivate(m.getModifiers()) && publicNames.contains(m.getName());
                 Check.due(m + " has a name of the face", twice, false);
             }
-        }
-        for (Method m : QuorumHall.class.getDeclaredMethods()) {
-            boolean twice = Modifier.isPrivate(m.getModifiers()) && publicNames.contains(m.getName());
-            Check.due(m + " has a name of the face", twice, false);
         }
     }
 
